@@ -899,7 +899,7 @@ public final class BoundaryTest {
         due("take(1, 0)", x.take(1, 0), REFUSED);
     }
 
-    /** Some 480 answers, the later ones with drops thrown away one by one. */
+    /** Some 380 answers, the later ones with drops thrown away one by one. */
     private static List<Integer> answers(FountainDesk x) {
         List<Integer> all = new ArrayList<>(List.of(
             x.drops(), x.known(), x.missing(), x.knownSums(), x.bestSet()));
