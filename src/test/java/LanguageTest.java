@@ -39,10 +39,12 @@ import javax.tools.StandardJavaFileManager;
 import javax.tools.ToolProvider;
 
 /**
- * The class keeps to LANGUAGE.md. Not all of it can be seen here: that no call
- * throws (rule 7) is for the tests that make calls, and of a loop's bound (rule
- * 8) it is seen only that there is a comparison. Reads the class's text from the
- * project's directory, or from the file that is its argument.
+ * The class keeps to LANGUAGE.md. Not all of it is seen here: that no call
+ * throws (rule 7) is for the tests that make calls; of a loop's bound (rule 8)
+ * only that there is a comparison; of arrays (rule 4) neither what local names
+ * stand for them nor the order of the constructor's lines, as the class has no
+ * such names and makes no array there. Reads the class's text from the project's
+ * directory, or from the file that is its argument.
  */
 public final class LanguageTest extends TreePathScanner<Void, Void> {
     private static final int MOST_PARAMETERS = 7;
